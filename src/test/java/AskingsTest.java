@@ -135,6 +135,12 @@ public final class AskingsTest {
     way(x, 0, 2, 0, 2, 5, 0, 1);
     x.set(2, 0, 99);
     way(x, 0, 2, 0, 2, 5, 0, 1);
+    // each row begins in THE MONTH as it is: she 1, cheaper, would still take him
+    RefusedMayAsk y = town(new int[] {0}, new int[][] {{1, 9}, {1, 0}, {0, 0}});
+    y.likes(0, 0, 1, 0);
+    Due.text(y, "takes month<1;worth 0;wants 0;");
+    y.force(1);
+    way(y, 0, 2, 1, 1, 14, 0);
   }
 
   private static void noWay() {

@@ -210,6 +210,10 @@ public final class TextsTest {
     fault("takes like hers;", 11);
     fault("takes likes;", 6);
     fault("takes lik;", 6);
+    fault("takes bike;", 6);
+    fault("takes likez;", 6);
+    fault("takes likea;", 6);
+    fault("takes 1 end 1;", 8);
     fault("takesx 1;", 0);
     fault(" take 1;", 1);
     fault("takes or;", 6);
