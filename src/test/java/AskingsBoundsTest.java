@@ -178,7 +178,8 @@ public final class AskingsBoundsTest {
     Scene taken = scene(13, "NONE: each of whom SAYS NO").first("man(0)", "maid(0, 0)", "maid(1, 0)");
     way(taken, 0, 0, 0);
     way(taken, 0, 0, 1);
-    Scene late = scene(13, "NONE: each of whom he MAY ASK").first("man(0)", "maid(0, 0)", "maid(0, 0)", "likes(0, 1, 1, 0)");
+    Scene late = scene(13, "NONE: each of whom he MAY ASK")
+        .first("man(0)", "maid(0, 0)", "maid(0, 0)", "likes(0, 1, 1, 0)");
     way(late, 0, 0, 0);
     Scene his = scene(13, "NONE: he is MARRIED").first("man(9)", "man(9)", "maid(1, 0)", "maid(4, 0)", "ask(0, 0)");
     way(his, 0, 1, 0);

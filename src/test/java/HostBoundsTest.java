@@ -99,7 +99,8 @@ public final class HostBoundsTest {
   }
 
   private static void sheetsAllZero() {
-    scene(26, "a row of n of a sort, all 0").first("man(0)", "man(0)", "man(0)", "maid(1, 0)", "maid(1, 0)", "maid(1, 0)")
+    scene(26, "a row of n of a sort, all 0")
+        .first("man(0)", "man(0)", "man(0)", "maid(1, 0)", "maid(1, 0)", "maid(1, 0)")
         .lay(0, 2, 2, 1, 0).still("row(0)", 3).is("sheet(0, 2, 3)", 1).still("row(0)", 0)
         .first("cell(0, 0, -1)", "cell(0, 1, -1)").still("row(0)", 2).lay(0, 0, 0, 7, 7)
         .is("sheet(0, 0, 1)", 1).is("sheet(0, 0, 3)", 1).first("cell(0, 1, -1)", "cell(0, 2, -1)").still("row(0)", 2)
@@ -163,7 +164,8 @@ public final class HostBoundsTest {
         .refused("copy(0, -1, 1, 0, -1)", NOTHING).first("sheet(0, 0, 2)").refused("copy(0, 0, 3, 0, -1)", NOTHING)
         .refused("copy(3, 9, 0, 0, 0)", NOTHING).outside("copy(0, 9, %, 0, 0)", 0, 3, BAD)
         .outside("copy(%, 9, 0, 0, 0)", 0, 3, BAD).first("sheet(3, 1, 2)").refused("copy(0, 0, 3, 0, 0)", OTHER)
-        .refused("copy(3, 0, 0, 0, 1)", OTHER).refused("copy(0, -1, 3, 0, -1)", OTHER).refused("copy(0, 9, 3, 9, 9)", OTHER)
+        .refused("copy(3, 0, 0, 0, 1)", OTHER).refused("copy(0, -1, 3, 0, -1)", OTHER)
+        .refused("copy(0, 9, 3, 9, 9)", OTHER)
         .first("sheet(3, 2, 2)").refused("copy(0, 0, 3, 0, 0)", OTHER).first("sheet(3, 0, 2)")
         .still("copy(0, 0, 3, 0, 0)", 0);
     rich(28, "BAD: no such SHEET; -11; -13; -12").outside("copy(%, 0, 0, 0, 1)", 0, 3, BAD)
@@ -197,7 +199,8 @@ public final class HostBoundsTest {
     for (int k = 0; k < 10; k++) {
       s.is("likings(1, 1, " + 4 * k + ", 1)", 1).is("told(0, 0, 0)", 4 * k + 3);
     }
-    s.refused("copy(0, 0, 1, 1, 40)", OUTSIDE).still("copy(0, 40, 1, 40, 0)", 0).refused("copy(0, 41, 1, 0, 0)", OUTSIDE);
+    s.refused("copy(0, 0, 1, 1, 40)", OUTSIDE).still("copy(0, 40, 1, 40, 0)", 0)
+        .refused("copy(0, 41, 1, 0, 0)", OUTSIDE);
   }
 
   private static void copyAsTheyWere() {
@@ -218,7 +221,8 @@ public final class HostBoundsTest {
         .outside("likings(0, %, 0, 0)", 0, 2, BAD).outside("likings(0, 0, 0, %)", 0, 10, BAD)
         .refused("likings(3, 2, -1, 10)", NOTHING).refused("likings(3, 0, 0, 0)", NOTHING);
     s.first("sheet(3, 0, 3)").outside("likings(3, 1, -1, %)", 0, 10, BAD).outside("likings(3, %, -1, 1)", 0, 2, BAD);
-    s.refused("likings(3, 1, -1, 1)", OTHER).refused("likings(3, 2, 0, 0)", OTHER).refused("likings(3, 0, -1, 1)", OUTSIDE);
+    s.refused("likings(3, 1, -1, 1)", OTHER).refused("likings(3, 2, 0, 0)", OTHER)
+        .refused("likings(3, 0, -1, 1)", OUTSIDE);
     rich(29, "BAD: no such SHEET, sort, n; -13; -11; -12").outside("likings(%, 2, 0, 1)", 0, 3, BAD)
         .outside("likings(2, %, 0, 1)", 0, 2, BAD).outside("likings(2, 2, 0, %)", 0, 10, BAD)
         .refused("likings(2, 0, 0, 1)", OTHER).refused("likings(2, 1, 0, 1)", OTHER)
@@ -267,13 +271,15 @@ public final class HostBoundsTest {
     first.outside("likings(0, 2, %, 1)", 0, 3, OUTSIDE).is("likings(0, 2, 3, 1)", 0).is("likings(0, 2, 0, 1)", 1);
     Scene any = pair(29, "-12: from one on").lay(0, 2, 0, 0, 0, 21);
     any.refused("likings(0, 2, MAX, 10)", OUTSIDE).refused("likings(0, 2, MIN, 10)", OUTSIDE);
-    any.refused("likings(0, 2, -4, 2)", OUTSIDE).refused("likings(0, 2, 1, 1)", OUTSIDE).refused("likings(0, 2, 4, 1)", OUTSIDE);
+    any.refused("likings(0, 2, -4, 2)", OUTSIDE).refused("likings(0, 2, 1, 1)", OUTSIDE)
+        .refused("likings(0, 2, 4, 1)", OUTSIDE);
     any.still("likings(0, 2, MAX, 0)", 0).still("likings(0, 2, -1, 0)", 0).still("likings(0, 2, 5, 0)", 0);
   }
 
   private static void likingsOfSorts() {
     for (int sort = 0; sort < 3; sort++) {
-      pair(29, "a SHEET that is taken for one of a sort").lay(0, sort, 9, 0, 0, 1, 31).is("likings(0, " + sort + ", 1, 1)", 1)
+      pair(29, "a SHEET that is taken for one of a sort").lay(0, sort, 9, 0, 0, 1, 31)
+          .is("likings(0, " + sort + ", 1, 1)", 1)
           .is("told(0, 0, 1)", 31).refused("likings(0, " + (sort + 1) % 3 + ", 1, 1)", OTHER)
           .refused("likings(0, " + (sort + 2) % 3 + ", 1, 1)", OTHER).outside("likings(0, %, 1, 1)", 0, 2, BAD);
     }
@@ -294,7 +300,8 @@ public final class HostBoundsTest {
   private static void takenForKinds() {
     String[] taken = {"0", "01", "02", "023", "014", "05"};
     for (int kind = 0; kind < 6; kind++) {
-      Scene s = scene(30, "KIND k (0 .. 5), or one under that one (also by others between)").first("maid(" + kind + ", 8)");
+      Scene s = scene(30, "KIND k (0 .. 5), or one under that one (also by others between)")
+          .first("maid(" + kind + ", 8)");
       for (int k = 0; k <= 5; k++) {
         s.still("taken(0, " + k + ")", taken[kind].indexOf('0' + k) >= 0 ? 8 : OTHER);
       }

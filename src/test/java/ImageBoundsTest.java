@@ -90,7 +90,8 @@ public final class ImageBoundsTest {
     Scene s = square(24, "who likes whom, NOES, who is MARRIED, THE MONTH, NUMBERS, THE RULE");
     s.read("takes 1;worth 1;wants 1;", 1);
     for (int i = 0; i < 4; i++) {
-      s.first("likes(" + i + ", " + (3 - i) + ", 0, " + (90 + i) + ")", "likes(" + i + ", " + i + ", 1, " + (80 + i) + ")");
+      s.first("likes(" + i + ", " + (3 - i) + ", 0, " + (90 + i) + ")");
+      s.first("likes(" + i + ", " + i + ", 1, " + (80 + i) + ")");
     }
     s.first("ask(1, 2)", "ask(2, 1)", "set(2, 0, 99)", "force(1)").is("image()", 4);
     s.first("part(1)", "part(2)", "ask(3, 1)", "set(2, 0, 3)", "force(0)");

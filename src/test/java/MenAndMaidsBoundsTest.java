@@ -254,8 +254,10 @@ public final class MenAndMaidsBoundsTest {
         new int[][] {{49, 0, 1}, {50, 0, 1}, {69, 2, 1}, {70, 2, 0}, {70, 3, 1}, {99, 0, 0}, {99, 9, 1}});
     refuses("AUNT: yes", 4, 0, new int[][] {{0, 0, 1}, {50, 0, 1}, {99, 0, 1}, {99, 9, 1}});
     refuses("AUNT: yes", 4, 9, new int[][] {{0, 0, 1}, {99, 0, 1}, {99, 1, 1}});
-    refuses("FLIRT: if k and NUMBER together are odd", 5, 0, new int[][] {{0, 0, 0}, {99, 1, 1}, {0, 8, 0}, {99, 9, 1}});
-    refuses("FLIRT: if k and NUMBER together are odd", 5, 9, new int[][] {{99, 0, 1}, {0, 1, 0}, {99, 8, 1}, {0, 9, 0}});
+    refuses("FLIRT: if k and NUMBER together are odd", 5, 0, new int[][] {{0, 0, 0}, {99, 1, 1}, {0, 8, 0},
+        {99, 9, 1}});
+    refuses("FLIRT: if k and NUMBER together are odd", 5, 9, new int[][] {{99, 0, 1}, {0, 1, 0}, {99, 8, 1},
+        {0, 9, 0}});
   }
 
   private static void refuses(String words, int kind, int number, int[][] rows) {

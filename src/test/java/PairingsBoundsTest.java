@@ -161,6 +161,12 @@ public final class PairingsBoundsTest {
         s.lay(0, sort, r[0], r[1]).still("row(0)", r[2]);
       }
     }
+    Scene once = town(18, "a MAID (each once at most), or none", 4, 4);
+    int[][] rows = {{0, 1, 2, 0, 0}, {0, -1, 0, -1, 0}, {3, 1, 2, 3, 0}, {-1, 2, 3, 2, 0}, {1, 0, 2, 0, 0},
+        {3, 2, 1, 0, 3}, {-1, -1, -1, 0, 2}, {0, 1, 2, 2, 0}};
+    for (int[] r : rows) {
+      once.lay(0, 0, r[0], r[1], r[2], r[3]).still("row(0)", r[4]);
+    }
     town(18, "a MAID (or -1): 0 no", 1, 4).lay(0, 2, Integer.MAX_VALUE).still("row(0)", 0)
         .lay(0, 2, Integer.MIN_VALUE).still("row(0)", 0).lay(0, 1, 32767).still("row(0)", 0)
         .lay(0, 1, -32768).still("row(0)", 0).lay(0, 2, 256).still("row(0)", 0).lay(0, 2, 32).still("row(0)", 0);
@@ -266,12 +272,15 @@ public final class PairingsBoundsTest {
     story(s, 0, 0, Integer.MAX_VALUE, 0, 0);
     story(s, 0, 0, 0, Integer.MIN_VALUE, 0);
     story(s, 0, 0, 0, 0, Integer.MAX_VALUE);
+    story(s, 1, 0, 0, 0, 0, 2, 0, 0);
+    story(s, 1, 0, 0, 0, 0, -1, 0, 0);
     story(s, 1, 1, 0, 0, 1, 1, 3, 0, 1, 1, 1);
     story(s, 2, 0, 0, 0, 0, 1, 1, 0, 1, 1, 2);
   }
 
   private static void judgeMayNotAsk() {
-    Scene s = scene(20, "or in which he may not ask her").first("man(0)", "man(1)", "maid(0, 0)", "maid(1, 0)", "maid(4, 0)");
+    Scene s = scene(20, "or in which he may not ask her")
+        .first("man(0)", "man(1)", "maid(0, 0)", "maid(1, 0)", "maid(4, 0)");
     story(s, 0, 0, 0, 0, 1);
     story(s, NONE, 0, 1, 0, 1);
     story(s, NONE, 0, 0, 2, 0, 0, 0, 1);
@@ -279,7 +288,8 @@ public final class PairingsBoundsTest {
     story(s, 1, 0, 1, 0, 1, 1, 1, 1);
     story(s, 1, 0, 1, 1, 1, 0, 1, 1);
     story(s, 2, 1, 0, 2, 0, 0, 1, 0, 0, 3, 0);
-    Scene married = scene(20, "or in which he may not ask her: MARRIED").first("man(0)", "man(0)", "maid(1, 0)", "maid(1, 0)", "ask(0, 0)");
+    Scene married = scene(20, "or in which he may not ask her: MARRIED")
+        .first("man(0)", "man(0)", "maid(1, 0)", "maid(1, 0)", "ask(0, 0)");
     story(married, 0, 0, 0, 1, 1);
     story(married, 0, 0, 1, 0, 1);
     story(married, NONE, 0, 1, 1, 1);
@@ -291,7 +301,8 @@ public final class PairingsBoundsTest {
     story(noes, NONE, 0, 0, 0, 0, 0, 0, 0, 0, 1, 1);
     story(noes, NONE, 1, 0, 0, 0, 0, 0, 0, 0, 1, 0);
     story(noes, NONE, 0, 0, 1, 0, 0, 1, 1);
-    Scene month = scene(20, "ASKINGS: THE MONTH 99 at most").first("man(0)", "maid(4, 0)", "maid(1, 0)", "set(2, 0, 98)");
+    Scene month = scene(20, "ASKINGS: THE MONTH 99 at most")
+        .first("man(0)", "maid(4, 0)", "maid(1, 0)", "set(2, 0, 98)");
     month.read("takes month=99;worth 1;wants 1;", 1).first("force(1)");
     story(month, NONE, 0, 0, 1, 0, 0, 1, 1);
     story(month, NONE, 0, 0, 0, 0, 0, 0, 0, 0, 1, 1);
@@ -314,7 +325,8 @@ public final class PairingsBoundsTest {
         int other = 1 - i % 2;
         String known = "takes man=" + man + " and(maid=" + other + " or hers=";
         town(21, "did she like him (z >>> 9) % 100 (an int; SEED at first)", 2, 2)
-            .read(known + draw[1 + i] + ");worth 1;wants 1;", 1).read(known + (draw[1 + i] + 1) + ");worth 1;wants 1;", 2)
+            .read(known + draw[1 + i] + ");worth 1;wants 1;", 1)
+            .read(known + (draw[1 + i] + 1) + ");worth 1;wants 1;", 2)
             .first("force(1)").still("drawn(" + draw[0] + ")", 2)
             .first("force(2)").still("drawn(" + draw[0] + ")", 1);
       }

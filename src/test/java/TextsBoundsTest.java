@@ -14,6 +14,8 @@ public final class TextsBoundsTest {
     endsTooEarly();
     nothingBehind();
     everyByte();
+    everyByteBehind();
+    wordsSpelt();
     blanks();
     wordsAsLongAsCanBe();
     numbersOf4Digits();
@@ -148,6 +150,18 @@ public final class TextsBoundsTest {
     }
   }
 
+  /** Each byte right behind a WORD or a NUMBER, with which one TOKEN ends or goes on. */
+  private static void everyByteBehind() {
+    for (int letter = 0; letter < 256; letter++) {
+      boolean stands = " \n;+-*<=".indexOf(letter) >= 0;
+      boolean goesOn = letter >= 'a' && letter <= 'z';
+      fault("WORDS (a .. z), each as long as can be", "takes like" + (char) letter, stands ? 11 : goesOn ? 6 : 10);
+      boolean digit = letter >= '0' && letter <= '9';
+      fault("NUMBERS (digits), each as long as can be", "takes 123" + (char) letter, stands || digit ? 10 : 9);
+      fault("NUMBERS (digits, 4 at most)", "takes 1234" + (char) letter, stands ? 11 : digit ? 6 : 10);
+    }
+  }
+
   private static void blanks() {
     stands("blanks (32, 10) may stand between", "\n takes \n1 \n; worth\n\n1 ;wants 1\n; \n");
     stands("blanks may stand between: none need", "takes(1)or(1)and(not(1))" + REST);
@@ -184,6 +198,35 @@ public final class TextsBoundsTest {
     fault("takes, worth, wants in their order", "takes 1;worth 1;worth 1;", 16);
     fault("the first of two", "takes x 12345", 6);
     fault("the first of two", "takes 12345 x", 6);
+  }
+
+  /** Each letter of each WORD, but another one, and the WORD without it. */
+  private static void wordsSpelt() {
+    spelt("takes", "% 1;worth 1;wants 1;");
+    spelt("worth", "takes 1;% 1;wants 1;");
+    spelt("wants", "takes 1;worth 1;% 1;");
+    spelt("or", "takes 1 % 1;worth 1;wants 1;");
+    spelt("and", "takes 1 % 1;worth 1;wants 1;");
+    spelt("not", "takes % 1;worth 1;wants 1;");
+    spelt("not", "takes (% 1);worth 1;wants 1;");
+    for (String name : "like hers noes month man maid".split(" ")) {
+      spelt(name, "takes %;worth 1;wants 1;");
+      spelt(name, "takes (%);worth 1;wants 1;");
+      spelt(name, "takes -%;worth 1;wants 1;");
+      spelt(name, "takes not %;worth 1;wants 1;");
+    }
+  }
+
+  private static void spelt(String word, String text) {
+    int at = text.indexOf('%');
+    stands("NAMES and KEYS are", text.replace("%", word));
+    for (int i = 0; i < word.length(); i++) {
+      char other = (char) (word.charAt(i) + 1);
+      String wrong = word.substring(0, i) + other + word.substring(i + 1);
+      fault("a WORD that is neither KEY nor NAME", text.replace("%", wrong), at);
+      String less = word.substring(0, i) + word.substring(i + 1);
+      fault("a WORD that is neither KEY nor NAME", text.replace("%", less), at);
+    }
   }
 
   private static void numbersOf4Digits() {
