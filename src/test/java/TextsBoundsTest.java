@@ -11,6 +11,7 @@ public final class TextsBoundsTest {
     longestText();
     textsToFull();
     faultKeepsTexts();
+    shorterBehindLonger();
     endsTooEarly();
     nothingBehind();
     everyByte();
@@ -106,6 +107,16 @@ public final class TextsBoundsTest {
     rich(9, "-100 less the place of its FAULT: no TEXT comes").is("count(4)", 2).is("count(5)", 15)
         .is("text()", -115).is("count(4)", 2).is("count(5)", 0).is("count(6)", 1)
         .read("takes 1" + REST, 2).is("count(6)", 1);
+  }
+
+  /** What stood behind its end in an earlier text is none of it. */
+  private static void shorterBehindLonger() {
+    String[] ahead = {"takes 1;worth 1;wants not 1;", "takes 1;worth 1;wants-1;", "takes 1;worth 1;wants not 1"};
+    for (String longer : ahead) {
+      Scene s = scene(9, "a TEXT ends at its last ;").first("man(0)", "maid(1, 0)").fed(longer).first("text()");
+      s.fed("takes 1;worth 1;wants month;").first("text()", "force(1)", "force(2)", "set(2, 0, 0)");
+      s.is("told(0, 0, 5)", 0).first("set(2, 0, 1)").is("told(0, 0, 5)", 1);
+    }
   }
 
   private static void fault(String words, String text, int place) {
