@@ -126,7 +126,7 @@ final class Scene {
   }
 
   /** Makes a call as it is written; its numbers may be MIN, MAX and NONE, too. */
-  private static long make(RefusedMayAsk town, String call) {
+  static long make(RefusedMayAsk town, String call) {
     int open = call.indexOf('(');
     String inside = call.substring(open + 1, call.length() - 1).trim();
     String[] told = inside.isEmpty() ? new String[0] : inside.split(",");
